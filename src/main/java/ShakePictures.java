@@ -576,7 +576,9 @@ public final class ShakePictures {
                 for (int i = 0; i < cells; i++) {
                     // To and fro: times run down the net in one pass and up in the next.
                     int cell = (pass & 1) == 0 ? i : cells - 1 - i;
-                    changed |= pull(cell);
+                    if (pull(cell)) {
+                        changed = true;
+                    }
                 }
             }
         }
@@ -1025,7 +1027,9 @@ public final class ShakePictures {
             for (int round = 0; round <= BLOCKS * SLOWEST && changed && !crossed; round++) {
                 changed = false;
                 for (int i = 0; i < rays.rows && !crossed; i++) {
-                    changed |= (rowSet >> i & 1) == 1 && narrow(i);
+                    if ((rowSet >> i & 1) == 1 && narrow(i)) {
+                        changed = true;
+                    }
                 }
             }
             return crossed;

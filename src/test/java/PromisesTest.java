@@ -850,6 +850,12 @@ public final class PromisesTest {
         fault(x, "Fit 1", 0);
         fault(x, "fiT 1", 0);
         fault(x, "fitX 1", 3);
+        fault(x, "fita 1", 0);
+        fault(x, "fitz 1", 0);
+        fault(x, "fit` 1", 3);
+        fault(x, "fit{ 1", 3);
+        fault(x, "fit 1/", 5);
+        fault(x, "fit 1:", 5);
         fault(x, "5 fit", 0);
         fault(x, "by", 0);
         fault(x, "slow 8 10", 5);
