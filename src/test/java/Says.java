@@ -1,0 +1,12 @@
+import java.lang.annotation.ElementType;
+import java.lang.annotation.Retention;
+import java.lang.annotation.RetentionPolicy;
+import java.lang.annotation.Target;
+
+/** The words of shared/DOC.md that a test holds the program to; SentencesTest looks whether they stand there. */
+@Retention(RetentionPolicy.RUNTIME)
+@Target(ElementType.METHOD)
+@interface Says {
+    int promise();
+    String[] value();
+}
