@@ -178,16 +178,26 @@ public final class FittingEdgesTest {
     }
 
     /**
-     * Each cell of four is a block: 0 and 1 together are 61 at least, 2 and 3 too, 1 and 3 together 60 at most, 0 and 2
-     * 61. All four are 122 at least and 121 at most, which shows only after each has been pressed by 1 again and again.
+     * Four by two cells, each a block, in a ring 0 1 2 3 7 6 5 4. By turns two neighbours are 61 at least and 61 at most,
+     * but 4 and 0 only 60: all eight are 244 at least and 243 at most, which shows only after each has been pressed by 1
+     * again and again, for more than a hundred rounds.
      */
-    private static final String RING = "ground(2, 2); split(0, 2); split(0, 4); split(0, 8); ear(1); ear(2); shake(0, 0); shake(3, 0);"
-        + "pick(0, 0, 0, 61, 3000); pick(0, 1, 0, 0, 60); pick(1, 1, 0, 61, 3000); pick(1, 0, 0, 0, 61)";
+    private static final String RING = "ground(4, 2); split(0, 2); split(0, 4); split(0, 8); split(0, 16); split(0, 32); split(0, 64); split(0, 128);"
+        + "ear(1); ear(3); ear(6); ear(4); shake(0, 0); shake(2, 0); shake(7, 0); shake(5, 0);"
+        + "pick(0, 0, 0, 61, 3000); pick(1, 1, 0, 61, 3000); pick(2, 2, 0, 61, 3000); pick(3, 3, 0, 61, 3000);"
+        + "pick(0, 1, 0, 0, 61); pick(1, 2, 0, 0, 61); pick(2, 3, 0, 0, 61); pick(3, 0, 0, 0, 60)";
 
     @Says(promise = 20, value = "again and again, till nothing changes, or a BLOCK has a least above its greatest: then the PICKS QUARREL")
     static void spanAfterManyRounds() {
-        Edges.life(RING).tell("span(0, 0)=NONE; span(7, 1)=NONE; quarrel()=15");
-        Edges.life(RING + "; tell(3, 0, 62); span(0, 0)=2; span(0, 1)=60; span(1, 0)=1; span(1, 1)=59; span(2, 0)=2; span(2, 1)=60; span(3, 0)=1; span(3, 1)=59; quarrel()=0");
+        Edges.life(RING).tell("count(1)=8; span(0, 0)=NONE; span(7, 1)=NONE; quarrel()=255");
+        Edges.life(RING + "; tell(7, 0, 61)=9; quarrel()=0; span(0, 0)=1; span(0, 1)=60; span(7, 0)=1; span(7, 1)=60");
+    }
+
+    @Says(promise = 20, value = {"again and again, till nothing changes", "SPAN of a BLOCK: its least and greatest then"})
+    static void spanRoundTheRing() {
+        // 0 and 1 are 62 at least, so 1 is 2 at least, 2 is 59 at most, 3 is 2 at least, and so on by 7, 6, 5 to 4.
+        Edges.life(RING + "; tell(0, 62, 3000); tell(7, 0, 62); span(0, 0)=2; span(0, 1)=60; span(1, 0)=2; span(1, 1)=60; span(2, 0)=1; span(2, 1)=59; span(3, 0)=2; span(3, 1)=60;"
+            + "span(7, 0)=1; span(7, 1)=59; span(6, 0)=2; span(6, 1)=60; span(5, 0)=1; span(5, 1)=59; span(4, 0)=2; span(4, 1)=60; quarrel()=0");
     }
 
     /**
